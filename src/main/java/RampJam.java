@@ -4,7 +4,8 @@ import java.util.Arrays;
  * A jam in a yard of 6 rows and 6 columns, with one way out at the right end of the row 2.
  *
  * A position (where all vehicles stand) is held as one int: three bits a vehicle, by rising
- * numbers, hold the place on its axis. A set of cells is held as one long: a bit a cell.
+ * numbers, hold the place on its axis; without vehicles it is 0, which is not solved. A set of
+ * cells is held as one long: a bit a cell.
  */
 public final class RampJam {
     private static final int SIDE = 6;
@@ -153,7 +154,7 @@ public final class RampJam {
     }
 
     public boolean isSolved() {
-        return isSolvedIn(position);
+        return placeIn(position, 0) == SOLVED_COLUMN;
     }
 
     public int moves() {
@@ -246,11 +247,6 @@ public final class RampJam {
 
     private static int moved(int position, int vehicle, int cells) {
         return position + cells * (1 << (PLACE_BITS * vehicle));
-    }
-
-    /** An empty yard counts as not solved: its position is 0, with no vehicle in the column 4. */
-    private static boolean isSolvedIn(int position) {
-        return placeIn(position, 0) == SOLVED_COLUMN;
     }
 
     /** The vehicles by what driving does not change, and the ramp. */
@@ -470,7 +466,7 @@ public final class RampJam {
             origins[index] = origin;
             moveCodes[index] = moveCode;
             foundCount = index + 1;
-            if (firstSolved == NONE && isSolvedIn(position)) {
+            if (firstSolved == NONE && placeIn(position, 0) == SOLVED_COLUMN) {
                 firstSolved = index;
             }
         }
@@ -481,7 +477,7 @@ public final class RampJam {
             for (int probe = 0; probe < SLOTS; probe++) {
                 int slot = (first + probe) & (SLOTS - 1);
                 int index = slots[slot] - 1;
-                if (!isFound(index) || found[index] == position) {
+                if (index < 0 || index >= MOST_POSITIONS || found[index] == position) {
                     return slot;
                 }
             }

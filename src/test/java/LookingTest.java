@@ -80,6 +80,7 @@ public final class LookingTest {
         RampJam jam = new RampJam();
         jam.park(2, true, 2, 0);
         CHECK.due("none", jam.inTheWay(), 0);
+        jam.park(2, true, 0, 0);
         jam.park(2, false, 0, 2);
         CHECK.due("above the row", jam.inTheWay(), 0);
         jam.park(3, false, 3, 2);
