@@ -20,15 +20,30 @@ final class Pictures {
     /** A new yard whose vehicles are parked as the picture shows them, by rising numbers. */
     static RampJam parked(String picture) {
         RampJam jam = new RampJam();
+        parkAll(picture, jam::park);
+        return jam;
+    }
+
+    /** The same in a SlowJam that finds so many positions. */
+    static SlowJam slowlyParked(String picture, int mostPositions) {
+        SlowJam jam = new SlowJam(mostPositions);
+        parkAll(picture, jam::park);
+        return jam;
+    }
+
+    private interface Parking {
+        int park(int cells, boolean isAcross, int row, int column);
+    }
+
+    private static void parkAll(String picture, Parking yard) {
         String cells = picture.replace("/", "");
         for (char number = '0'; cells.indexOf(number) >= 0; number++) {
             int first = cells.indexOf(number);
             int last = cells.lastIndexOf(number);
             boolean isAcross = first / SIDE == last / SIDE;
             int size = 1 + (last - first) / (isAcross ? 1 : SIDE);
-            jam.park(size, isAcross, first / SIDE, first % SIDE);
+            yard.park(size, isAcross, first / SIDE, first % SIDE);
         }
-        return jam;
     }
 
     /** All that can be asked without an argument or by vehicle, so that a change anywhere shows. */
